@@ -1,3 +1,6 @@
+import java.util.ArrayList;
+import java.util.List;
+
 // Compares with the document's definition itself, not with a way to reach it:
 // of all divisions of four variables, with every choice of what their classes
 // point at, those that keep the rules are looked through for the finest one
@@ -10,8 +13,8 @@ public final class DefinitionTest {
     // variable's class, and of the class it points at (-1 for none).
     private static final int[] leader = new int[USED];
     private static final int[] pointee = new int[USED];
-    private static final int[] bestLeader = new int[USED];
-    private static final int[] bestPointee = new int[USED];
+    private static int[] bestLeader;
+    private static int[] bestPointee;
 
     public static void main(String[] args) {
         Numbers numbers = new Numbers(20261115);
@@ -57,32 +60,53 @@ public final class DefinitionTest {
     }
 
     private static void findBest(int[][] held) {
+        List<int[][]> kept = divisionsThatKeep(held);
         int found = 0;
         int most = 0;
         int fewest = 0;
+        for (int[][] one : kept) {
+            int classes = classCount(one[0]);
+            int pointing = pointingCount(one[0], one[1]);
+            if (found > 0 && classes == most && pointing == fewest) {
+                found++;
+            }
+            if (found == 0 || classes > most || classes == most && pointing < fewest) {
+                found = 1;
+                most = classes;
+                fewest = pointing;
+                bestLeader = one[0];
+                bestPointee = one[1];
+            }
+        }
+        Check.due("how many are best", found, 1);
+        // To have the most classes is not yet to be the finest.
+        for (int[][] one : kept) {
+            Check.due("a division that parts what the best joins", variablesParted(one[0]), 0);
+        }
+    }
+
+    // Each as the leaders and the pointees of all variables.
+    private static List<int[][]> divisionsThatKeep(int[][] held) {
+        List<int[][]> kept = new ArrayList<>();
         for (int code = 0; code < 256; code++) {
             if (!takeDivision(code)) {
                 continue;
             }
             for (int points = 0; points < 625; points++) {
-                if (!takePointing(points) || !keepsRules(held)) {
-                    continue;
-                }
-                int classes = classCount(leader);
-                int pointing = pointingCount(leader, pointee);
-                if (found > 0 && classes == most && pointing == fewest) {
-                    found++;
-                }
-                if (found == 0 || classes > most || classes == most && pointing < fewest) {
-                    found = 1;
-                    most = classes;
-                    fewest = pointing;
-                    System.arraycopy(leader, 0, bestLeader, 0, USED);
-                    System.arraycopy(pointee, 0, bestPointee, 0, USED);
+                if (takePointing(points) && keepsRules(held)) {
+                    kept.add(new int[][] {leader.clone(), pointee.clone()});
                 }
             }
         }
-        Check.due("how many are best", found, 1);
+        return kept;
+    }
+
+    private static int variablesParted(int[] leaders) {
+        int count = 0;
+        for (int v = 0; v < USED; v++) {
+            count += leaders[v] != leaders[bestLeader[v]] ? 1 : 0;
+        }
+        return count;
     }
 
     private static boolean takeDivision(int code) {
